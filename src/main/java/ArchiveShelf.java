@@ -556,12 +556,15 @@ public final class ArchiveShelf {
 
         // The member that goes needs no care here: no name lies under itself.
         boolean isInTheWay(Bytes title, boolean directory) {
-            if (!directory && hasUnder(title)) {
-                return true;
-            }
             for (int k = 0; k < size; k++) {
                 Member member = member(k);
-                if (member != null && !member.directory && title.liesUnder(member.title)) {
+                if (member == null) {
+                    continue;
+                }
+                if (!directory && member.title.liesUnder(title)) {
+                    return true;
+                }
+                if (!member.directory && title.liesUnder(member.title)) {
                     return true;
                 }
             }
@@ -763,10 +766,9 @@ public final class ArchiveShelf {
             super(tape, path, flaw);
         }
 
-        @Override
         boolean takeIn(Shelf shelf) {
             int p = 0;
-            while (p + BLOCK <= tape.size()) {
+            for (int heads = 0; heads < MOST_TAPE && p + BLOCK <= tape.size(); heads++) {
                 if (isEmptyBlock(p)) {
                     return reaches(p + 2 * BLOCK) && isZeroFrom(p);
                 }
@@ -880,7 +882,6 @@ public final class ArchiveShelf {
             }
         }
 
-        @Override
         void layOut(Shelf shelf, boolean packed) {
             for (int k = 0; k < shelf.size(); k++) {
                 Member member = shelf.member(k);
@@ -953,10 +954,9 @@ public final class ArchiveShelf {
             super(tape, path, flaw);
         }
 
-        @Override
         boolean takeIn(Shelf shelf) {
             int p = 0;
-            while (p + HEAD <= tape.size()) {
+            for (int heads = 0; heads < MOST_TAPE && p + HEAD <= tape.size(); heads++) {
                 if (!isHead(p) || !isSpelt(p)) {
                     return false;
                 }
@@ -1053,7 +1053,6 @@ public final class ArchiveShelf {
             return c >= 65 && c <= 70 ? c - 55 : NONE;
         }
 
-        @Override
         void layOut(Shelf shelf, boolean packed) {
             for (int k = 0; k < shelf.size(); k++) {
                 Member member = shelf.member(k);
@@ -1150,7 +1149,6 @@ public final class ArchiveShelf {
             this.body = body;
         }
 
-        @Override
         boolean takeIn(Shelf shelf) {
             if (!isClosing()) {
                 return false;
@@ -1267,7 +1265,8 @@ public final class ArchiveShelf {
         private boolean isSame(int q) {
             for (int i = 0; i < SAME_FIELDS.length && i < SAME_WIDTHS.length; i++) {
                 int field = SAME_FIELDS[i];
-                if (tape.little(local + field, SAME_WIDTHS[i]) != tape.little(q + field + 2, SAME_WIDTHS[i])) {
+                int width = SAME_WIDTHS[i];
+                if (tape.little(local + field, width) != tape.little(q + field + 2, width)) {
                     return flaw.tell(FAULT_DIFFERS, local + field);
                 }
             }
@@ -1286,7 +1285,6 @@ public final class ArchiveShelf {
             return checkOf(body) == (int) tape.little(q + 16, 4) || flaw.tell(FAULT_CHECK, q + 16);
         }
 
-        @Override
         void layOut(Shelf shelf, boolean packed) {
             for (int k = 0; k < shelf.size(); k++) {
                 Member member = shelf.member(k);
@@ -1365,6 +1363,8 @@ public final class ArchiveShelf {
 
         // How many codes there are of each length.
         private final int[] amounts;
+        // Where, among the symbols, the next one of each length has its place.
+        private final int[] nexts;
         // The symbols in the order of their codes.
         private final int[] symbols;
         private int total;
@@ -1372,6 +1372,7 @@ public final class ArchiveShelf {
 
         Codes(int most) {
             amounts = new int[LONGEST + 1];
+            nexts = new int[LONGEST + 1];
             symbols = new int[most < 0 ? 0 : most];
             total = 0;
             longest = 0;
@@ -1391,27 +1392,41 @@ public final class ArchiveShelf {
 
         /** Symbol 0 has the length at begin, and so on, n in all. */
         void order(int[] lengths, int begin, int n) {
+            for (int length = 0; length < amounts.length; length++) {
+                amounts[length] = 0;
+            }
+            int behind = Math.min(Math.min(begin + n, begin + symbols.length), lengths.length);
+            for (int i = Math.max(begin, 0); i < behind; i++) {
+                int length = lengths[i];
+                if (length > 0 && length < amounts.length) {
+                    amounts[length]++;
+                }
+            }
+            placeLengths();
+            for (int i = Math.max(begin, 0); i < behind; i++) {
+                placeSymbol(i - begin, lengths[i]);
+            }
+        }
+
+        private void placeLengths() {
             total = 0;
             longest = 0;
-            for (int length = 1; length < amounts.length; length++) {
-                int before = total;
-                for (int i = 0; i < n; i++) {
-                    int place = begin + i;
-                    if (place >= 0 && place < lengths.length && lengths[place] == length) {
-                        addSymbol(i);
-                    }
-                }
-                amounts[length] = total - before;
-                if (total > before) {
+            for (int length = 1; length < amounts.length && length < nexts.length; length++) {
+                nexts[length] = total;
+                total += amounts[length];
+                if (amounts[length] > 0) {
                     longest = length;
                 }
             }
         }
 
-        private void addSymbol(int symbol) {
-            if (total >= 0 && total < symbols.length) {
-                symbols[total] = symbol;
-                total++;
+        private void placeSymbol(int symbol, int length) {
+            if (length > 0 && length < nexts.length) {
+                int place = nexts[length];
+                if (place >= 0 && place < symbols.length) {
+                    symbols[place] = symbol;
+                }
+                nexts[length]++;
             }
         }
 
@@ -1442,6 +1457,8 @@ public final class ArchiveShelf {
         private final Bytes tape;
         private final Bytes body;
         private final Flaw flaw;
+        private final Codes fixedSymbols;
+        private final Codes fixedDistances;
         private final Codes symbols;
         private final Codes distances;
         private final Codes lengthCodes;
@@ -1459,10 +1476,13 @@ public final class ArchiveShelf {
             this.tape = tape;
             this.body = body;
             this.flaw = flaw;
+            fixedSymbols = new Codes(MOST_SYMBOLS);
+            fixedDistances = new Codes(MOST_DISTANCES);
             symbols = new Codes(MOST_SYMBOLS);
             distances = new Codes(MOST_DISTANCES);
             lengthCodes = new Codes(LENGTHS_ORDER.length);
             lengths = new int[MOST_SYMBOLS + MOST_DISTANCES];
+            orderFixed();
         }
 
         /** The bytes from begin on become the body, which may have so many bytes at most. */
@@ -1482,13 +1502,13 @@ public final class ArchiveShelf {
                 if (sort == 3) {
                     return flaw.tell(FAULT_BLOCK_SORT, block);
                 }
-                if (sort == 1) {
-                    orderFixed();
-                }
-                if (sort == 2 && !(areLengthCodes() && areLengths())) {
+                if (sort == 0 && !isStored()) {
                     return false;
                 }
-                if (sort == 0 ? !isStored() : !areSymbols()) {
+                if (sort == 1 && !areSymbols(fixedSymbols, fixedDistances)) {
+                    return false;
+                }
+                if (sort == 2 && !(areLengthCodes() && areLengths() && areSymbols(symbols, distances))) {
                     return false;
                 }
                 last = lastBit == 1;
@@ -1566,9 +1586,9 @@ public final class ArchiveShelf {
             fillLengths(144, 256, 9);
             fillLengths(256, 280, 7);
             fillLengths(280, MOST_SYMBOLS, 8);
-            symbols.order(lengths, 0, MOST_SYMBOLS);
+            fixedSymbols.order(lengths, 0, MOST_SYMBOLS);
             fillLengths(0, MOST_DISTANCES, 5);
-            distances.order(lengths, 0, MOST_DISTANCES);
+            fixedDistances.order(lengths, 0, MOST_DISTANCES);
         }
 
         private void fillLengths(int from, int behind, int length) {
@@ -1666,10 +1686,10 @@ public final class ArchiveShelf {
             return symbols.areComplete();
         }
 
-        private boolean areSymbols() {
+        private boolean areSymbols(Codes chosenSymbols, Codes chosenDistances) {
             for (int turn = 0; turn <= 8 * MOST_TAPE; turn++) {
                 int place = bit >> 3;
-                int symbol = takeSymbol(symbols, place);
+                int symbol = takeSymbol(chosenSymbols, place);
                 if (symbol == NONE) {
                     return false;
                 }
@@ -1680,7 +1700,7 @@ public final class ArchiveShelf {
                     return flaw.tell(FAULT_NO_CODE, place);
                 }
                 if (symbol > END_OF_BLOCK) {
-                    if (!isCopied(symbol - END_OF_BLOCK - 1, place)) {
+                    if (!isCopied(symbol - END_OF_BLOCK - 1, chosenDistances, place)) {
                         return false;
                     }
                 } else if (body.size() >= most) {
@@ -1692,12 +1712,12 @@ public final class ArchiveShelf {
             return false;
         }
 
-        private boolean isCopied(int step, int place) {
+        private boolean isCopied(int step, Codes chosenDistances, int place) {
             int moreLength = takeBits(lengthBits(step));
             if (moreLength == NONE) {
                 return false;
             }
-            int symbol = takeSymbol(distances, place);
+            int symbol = takeSymbol(chosenDistances, place);
             if (symbol == NONE) {
                 return false;
             }
@@ -1746,8 +1766,12 @@ public final class ArchiveShelf {
             while (i < row.size()) {
                 int length = longestBefore(row, i);
                 if (length >= LEAST) {
-                    addLength(length);
-                    addDistance();
+                    int step = lengthStep(length);
+                    addSymbol(257 + step);
+                    addBits(length - lengthBase(step), lengthBits(step));
+                    int far = distanceSymbol();
+                    addCode(far, 5);
+                    addBits(distance - distanceBase(far), distanceBits(far));
                     i += length;
                 } else {
                     addSymbol(row.get(i));
@@ -1777,22 +1801,20 @@ public final class ArchiveShelf {
             return longest;
         }
 
-        private void addLength(int length) {
+        private int lengthStep(int length) {
             int step = 28;
             while (step > 0 && lengthBase(step) > length) {
                 step--;
             }
-            addSymbol(257 + step);
-            addBits(length - lengthBase(step), lengthBits(step));
+            return step;
         }
 
-        private void addDistance() {
+        private int distanceSymbol() {
             int symbol = 29;
             while (symbol > 0 && distanceBase(symbol) > distance) {
                 symbol--;
             }
-            addCode(symbol, 5);
-            addBits(distance - distanceBase(symbol), distanceBits(symbol));
+            return symbol;
         }
 
         private void addSymbol(int symbol) {

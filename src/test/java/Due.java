@@ -6,6 +6,8 @@ final class Due {
         void run();
     }
 
+    private static final int MOST_LINES = 100;
+
     private int wrong = 0;
     private int asked = 0;
 
@@ -46,7 +48,9 @@ final class Due {
 
     private void report(String text) {
         wrong++;
-        System.out.println(text);
+        if (wrong <= MOST_LINES) {
+            System.out.println(text);
+        }
     }
 
     void close() {
