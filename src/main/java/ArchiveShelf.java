@@ -1545,8 +1545,8 @@ public final class ArchiveShelf {
                 if (code - first < amount) {
                     return codes.symbol(index + code - first);
                 }
-                // Codes that are not complete have no bits beyond their longest one that could
-                // still lead to a code: they are none at all, or one of a single bit.
+                // Codes that may be in use without being complete are none at all or one of a
+                // single bit: behind the longest one no bits lead to a code any more.
                 if (length >= codes.longest()) {
                     break;
                 }

@@ -125,6 +125,8 @@ public final class BufferAndTapeTest {
         ArchiveShelf shelf = new ArchiveShelf();
         DUE.refused("poke nothing", shelf, IndexOutOfBoundsException.class, () -> shelf.poke(0, 0));
         shelf.feed(0x010203FF, 0, 0, 0, 0);
+        DUE.same("poke the first", shelf.poke(0, 9), 1);
+        DUE.same("poke the first again", shelf.poke(0, 1), 9);
         DUE.same("poke", shelf.poke(3, 0), 255);
         DUE.same("poke again", shelf.poke(3, 255), 0);
         DUE.same("poke the last", shelf.poke(19, 128), 0);

@@ -68,6 +68,7 @@ public final class ReadDigitsTest {
         sound("mode and check of the trailer", Cpio.with(Cpio.with(Cpio.end(), 14, "00001000"), 102, "00000001"), "");
         fault("a shorter name is none", Shelves.join(Cpio.file(1, "TRAILER!!", "")), 1, 120);
         sound("member like the trailer", Shelves.join(Cpio.file(1, "TRAILER!!", ""), Cpio.end()), "TRAILER!!= ");
+        sound("one as long", Shelves.join(Cpio.file(1, "TRAILER!!?", "1"), Cpio.end()), "TRAILER!!?=1 ");
         sound("another one", Shelves.join(Cpio.file(1, "TRAILER!!!!", ""), Cpio.end()), "TRAILER!!!!= ");
         fault("directory of that name", Shelves.join(Cpio.directory(1, "TRAILER!!!"), Cpio.end()), 2, 124);
     }
@@ -88,6 +89,12 @@ public final class ReadDigitsTest {
         fault("size of directory", second(Cpio.with(Cpio.directory(2, "d"), 54, "00000001")), 7, P + 54);
         String most = "b".repeat(400);
         sound("size 400", second(Cpio.file(2, "ab", most)), "first=1 ab=" + most + " ");
+        for (int size = 10; size < 16; size++) {
+            byte[] sized = Cpio.file(2, "ab", "b".repeat(size));
+            sound("small letters", second(sized), "first=1 ab=" + "b".repeat(size) + " ");
+            sound("capitals", second(Cpio.with(sized, 54, String.format("%08X", size))),
+                    "first=1 ab=" + "b".repeat(size) + " ");
+        }
         sound("other numbers", second(Cpio.with(Cpio.with(Cpio.with(file, 22, "ffffffffffffffffffffffffffffffff"), 62,
                 "ffffffffffffffffffffffffffffffff"), 6, "ffffffff")), "first=1 ab=c ");
     }

@@ -135,6 +135,10 @@ public final class ReadEndTest {
         fault("check first", all, 7, q + 16);
         fault("way first", Zip.with(all, q + 10, 8), 7, q + 10);
         fault("no name", new Zip().plain("/", "").done(), 10, 31 + 46);
+        fault("no name, with check", Zip.with(new Zip().plain("/", "").done(), 31 + 16, 1), 7, 31 + 16);
+        Zip noByte = new Zip().plain("", "");
+        fault("a slash before the name", with4(Zip.with(noByte.done(), 30 + 16, 1), 30 + 42, 47L << 24), 10, 30 + 46);
+        sound("time of a directory", Zip.with(archive, q + 12, 1), "d/ x=1 ");
         fault("two slashes", new Zip().plain("d//", "").done(), 10, 33 + 46);
         fault("directory before its name", with4(new Zip().plain("d//", "").done(), 33 + 20, 5), 7, 33 + 20);
     }

@@ -167,6 +167,9 @@ public final class TreeTest {
 
     private static void kind() {
         ArchiveShelf shelf = tree();
+        Shelves.file(shelf, "c1/c2/c3", "");
+        DUE.same("what the last one lies under", Shelves.kind(shelf, "c1/c2"), 1);
+        shelf.go(6);
         DUE.same("root", Shelves.kind(shelf, ""), 1);
         DUE.same("member directory", Shelves.kind(shelf, "a"), 1);
         DUE.same("what some lie under", Shelves.kind(shelf, "b"), 1);
@@ -184,6 +187,15 @@ public final class TreeTest {
         DUE.same("of root", Shelves.children(shelf, ""), "b a bb ");
         DUE.same("of b", Shelves.children(shelf, "b"), "x y ");
         DUE.same("of b/x", Shelves.children(shelf, "b/x"), "1 22 ");
+        Shelves.file(shelf, "e/yab/1", "");
+        Shelves.file(shelf, "e/yac", "");
+        Shelves.file(shelf, "e/ya", "");
+        Shelves.file(shelf, "e/yab/2", "");
+        DUE.same("of e, alike", Shelves.children(shelf, "e"), "yab yac ya ");
+        DUE.same("of root, the last ones alike", Shelves.children(shelf, ""), "b a bb e ");
+        for (int k = 9; k > 5; k--) {
+            shelf.go(k);
+        }
         DUE.same("of an empty directory", Shelves.children(shelf, "a"), "");
         DUE.same("of a file", Shelves.children(shelf, "bb"), "");
         DUE.same("of nothing", Shelves.children(shelf, "b/"), "");

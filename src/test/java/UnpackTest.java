@@ -17,6 +17,8 @@ public final class UnpackTest {
         tooMany();
         lengthCodes();
         rowsOfLengths();
+        longCodes();
+        mostLengths();
         distancesCodes();
         leftOver();
         cuts();
@@ -141,7 +143,7 @@ public final class UnpackTest {
 
     private static void copies() {
         sound("over itself", new Bits().block(true, 1).fixed('a').fixed('b').fixed(259).far(1).fixed('c').fixed(256),
-                "abababac".substring(0, 7) + "c");
+                "abababac");
         fault("26", new Bits().block(true, 1).fixed('a').fixed('a').fixed(257).far(2).done(), 26, 2);
         fault("26 with none", new Bits().block(true, 1).fixed(257).far(0).done(), 26, 0);
         fault("26 far", new Bits().block(true, 1).fixed('a').fixed(257).far(29).number(8191, 13).done(), 26, 1);
@@ -235,7 +237,7 @@ public final class UnpackTest {
                 "abbbb");
         sound("16 from symbols to distances", zeros(tables(257, 4).code(L18).number(97 - 11, 7).code(L2), 156).code(L2)
                 .code(L16).number(0, 2).code(L16).number(0, 2).code("00").code("11"), "a");
-        sound("16 of 6", letters(8).code(L17).number(0, 3).code(L1).code(L17).number(1, 3).code("0").code("11"), "a");
+        sound("17 of 3 and of 4", letters(8).code(L17).number(0, 3).code(L1).code(L17).number(1, 3).code("0").code("11"), "a");
         sound("16 up to K", letters(4).code(L16).number(1, 2).code("0").code("11"), "a");
         fault("16 with none before", tables(257, 1).code(L16).number(0, 2).code("0".repeat(99)).done(), 24, 0);
         Bits alone = before(0).block(true, 2).tables(257, 1, THREE_BITS).code(L16);
@@ -246,6 +248,7 @@ public final class UnpackTest {
         fault("17 beyond", letters(2).code(L17).number(0, 3).code("0".repeat(99)).done(), 24, 0);
         fault("18 beyond", letters(10).code(L18).number(0, 7).code("0".repeat(99)).done(), 24, 0);
         fault("256 has none", zeros(tables(257, 1).code(L1).code(L1), 255).code(L0).done(), 24, 0);
+        fault("256 has none, told alone", zeros(tables(257, 1).code(L1).code(L1), 254).code(L0).code(L0).done(), 24, 0);
         fault("symbols too few", zeros(tables(257, 1).code(L1), 255).code(L2).code(L1).done(), 24, 0);
         fault("symbols too many", zeros(tables(257, 1).code(L1).code(L1), 254).code(L2).code(L1).done(), 24, 0);
         fault("just the end", zeros(tables(257, 1), 256).code(L1).code(L1).code("0").done(), 24, 0);
@@ -253,6 +256,58 @@ public final class UnpackTest {
         DUE.same("a bit is left of the last byte", short256.bitCount(), 119);
         fault("256 has none, lengths of distances lack", short256.done(), 24, 2);
         fault("lengths of distances lack", letters(9).done(), 20, letters(9).length());
+
+        ArchiveShelf shelf = new ArchiveShelf();
+        Shelves.feed(shelf, zeros(tables(257, 1).code(L1).code(L1), 255).code(L0).done());
+        DUE.same("refused", shelf.unpack(), -1);
+        Shelves.feed(shelf, letters(1).code(L0).code("0").code("11").done());
+        DUE.same("sound behind the refused", shelf.unpack(), 1);
+    }
+
+    /** Codes of 1, 2, 3 .. 15 bits and the end's of 15, too; each length is told by a code of 4 bits. */
+    private static void longCodes() {
+        int[] told = new int[32];
+        for (int i = 1; i < 16; i++) {
+            told[2 * i] = i;
+            told[2 * i + 1] = 4;
+        }
+        told[0] = 18;
+        told[1] = 4;
+        // In the order of symbols 1 .. 15 are 0000 .. 1110, and 18 is 1111.
+        Bits bits = new Bits().block(true, 2).tables(257, 1, told).code("1111").number(127, 7).code("1111")
+                .number(240 - 138 - 11, 7);
+        for (int i = 0; i < 15; i++) {
+            bits.number(i >> 3, 1).number(i >> 2, 1).number(i >> 1, 1).number(i, 1);
+        }
+        bits.code("1110").code("1110").code("0000");
+        fault("two of 15 too many", bits.done(), 24, 0);
+
+        bits = new Bits().block(true, 2).tables(257, 1, told).code("1111").number(127, 7).code("1111")
+                .number(241 - 138 - 11, 7);
+        byte[] want = new byte[15];
+        for (int i = 0; i < 15; i++) {
+            bits.number(i >> 3, 1).number(i >> 2, 1).number(i >> 1, 1).number(i, 1);
+            want[i] = (byte) (241 + i);
+        }
+        bits.code("1110").code("0000");
+        for (int i = 0; i < 15; i++) {
+            bits.code("1".repeat(i) + "0");
+        }
+        sound("codes of 1 .. 15 bits", bits.code("1".repeat(15)).done(), want);
+    }
+
+    private static void mostLengths() {
+        for (int h : new int[] {285, 286}) {
+            // The last symbol, a length of 227 or 258, has the end's length.
+            Bits bits = zeros(tables(h, 30).code(L18).number(97 - 11, 7).code(L1), 158).code(L2)
+                    .code(L18).number(h - 258 - 11, 7).code(L2);
+            bits.code(L18).number(28 - 11, 7).code(L1).code(L1).code("0").code("10");
+            sound("H " + h + " and K 30", bits, "a");
+            bits = zeros(tables(h, 1).code(L18).number(97 - 11, 7).code(L1), 158).code(L2)
+                    .code(L18).number(h - 258 - 11, 7).code(L2).code(L1);
+            bits.code("0").code("11").number(0, h == 285 ? 5 : 0).code("0").code("10");
+            sound("its last symbol", bits, "a".repeat(h == 285 ? 228 : 259));
+        }
     }
 
     private static void distancesCodes() {
