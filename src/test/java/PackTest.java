@@ -65,73 +65,16 @@ public final class PackTest {
         text("a".repeat(262), start().fixed('a').fixed(285).far(0).fixed(257).far(0));
     }
 
-    /** From the left the longest row, by trying each length and each place. */
-    private static Bits slowly(byte[] row) {
-        Bits bits = start();
-        int i = 0;
-        while (i < row.length) {
-            int best = 0;
-            int far = 0;
-            for (int distance = 1; distance <= i; distance++) {
-                int n = 0;
-                while (n < 258 && i + n < row.length && row[i + n] == row[i + n - distance]) {
-                    n++;
-                }
-                if (n > best) {
-                    best = n;
-                    far = distance;
-                }
-            }
-            if (best < 3) {
-                bits.fixed(row[i] & 255);
-                i++;
-            } else {
-                length(bits, best);
-                distance(bits, far);
-                i += best;
-            }
-        }
-        return bits.fixed(256);
-    }
-
-    private static void length(Bits bits, int length) {
-        if (length == 258) {
-            bits.fixed(285);
-            return;
-        }
-        int least = 3;
-        for (int symbol = 257; symbol <= 284; symbol++) {
-            int more = symbol < 265 ? 0 : (symbol - 261) / 4;
-            if (length < least + (1 << more)) {
-                bits.fixed(symbol).number(length - least, more);
-                return;
-            }
-            least += 1 << more;
-        }
-    }
-
-    private static void distance(Bits bits, int distance) {
-        int least = 1;
-        for (int symbol = 0; symbol < 30; symbol++) {
-            int more = symbol < 4 ? 0 : symbol / 2 - 1;
-            if (distance < least + (1 << more)) {
-                bits.far(symbol).number(distance - least, more);
-                return;
-            }
-            least += 1 << more;
-        }
-    }
-
     private static void many() throws DataFormatException {
         Random random = new Random(23);
         byte[] all = new byte[512];
         for (int i = 0; i < 512; i++) {
             all[i] = (byte) (255 - i / 2);
         }
-        packed("high bytes", all, slowly(all).done());
+        packed("high bytes", all, PlainPacker.packed(all));
         random.nextBytes(all);
         System.arraycopy(all, 0, all, 500, 12);
-        packed("far", all, slowly(all).done());
+        packed("far", all, PlainPacker.packed(all));
         for (int turn = 0; turn < 400; turn++) {
             byte[] row = new byte[random.nextInt(513)];
             int letters = 1 + random.nextInt(turn % 2 == 0 ? 3 : 256);
@@ -146,7 +89,7 @@ public final class PackTest {
                     i--;
                 }
             }
-            packed("row " + turn, row, slowly(row).done());
+            packed("row " + turn, row, PlainPacker.packed(row));
         }
     }
 }

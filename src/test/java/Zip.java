@@ -100,4 +100,11 @@ final class Zip {
     static byte[] with(byte[] archive, int place, int other, int v) {
         return with(with(archive, place, v), other, v);
     }
+
+    /** The archive with a little number of n bytes changed. */
+    static byte[] number(byte[] archive, int place, int n, long number) {
+        byte[] row = archive.clone();
+        System.arraycopy(little(number, n), 0, row, place, n);
+        return row;
+    }
 }
