@@ -925,8 +925,7 @@ public final class ArchiveShelf {
 
         private void addOctal(int number, int n) {
             for (int i = n - 1; i >= 0; i--) {
-                // A shift by 32 and more would begin anew.
-                tape.add(48 + (3 * i < 32 ? number >>> 3 * i & 7 : 0));
+                tape.add(48 + (number >>> 3 * i & 7));
             }
         }
 

@@ -294,6 +294,8 @@ public final class BlockEdgesTest {
             }
             Arrays.fill(file, 512 + size, 1024, (byte) 255);
             sound("size " + size + ", more", second(file), "first=1 f=" + "b".repeat(size) + " ");
+            sound("size " + size + ", more, and a head behind it", second(file, Tar.file("g", "1")),
+                    "first=1 f=" + "b".repeat(size) + " g=1 ");
         }
         sound("size 0", second(Tar.file("f", ""), Tar.file("g", "")), "first=1 f= g= ");
         fault("size 0, and no more", Shelves.join(FIRST, Tar.file("f", "")), 1, P + 512);

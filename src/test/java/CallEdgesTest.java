@@ -225,6 +225,11 @@ public final class CallEdgesTest {
                 if (k >= 0 && k < n) {
                     DUE.same("go " + k + " of " + n, shelf.go(k), n - 1);
                     DUE.same("left behind go " + k + " of " + n, Shelves.members(shelf), left.toString());
+                    for (int i = n; i <= 16; i++) {
+                        Shelves.file(shelf, "new" + i, "n" + i);
+                        left.append("new").append(i).append("=n").append(i).append(" ");
+                    }
+                    DUE.same("16 again behind go " + k + " of " + n, Shelves.members(shelf), left.toString());
                 } else {
                     DUE.refused("go " + k + " of " + n, shelf, IOOBE, () -> shelf.go(k));
                 }
@@ -296,6 +301,11 @@ public final class CallEdgesTest {
         shelf.go(1);
         DUE.same("gone", Shelves.kind(shelf, "a/b"), 0);
         DUE.same("gone", Shelves.kind(shelf, "a"), 0);
+        ArchiveShelf one = new ArchiveShelf();
+        Shelves.file(one, "p/q/r", "");
+        DUE.same("what the only member lies under", Shelves.kind(one, "p"), 1);
+        DUE.same("what the only member lies under", Shelves.kind(one, "p/q"), 1);
+        DUE.same("the only member", Shelves.kind(one, "p/q/r"), 2);
     }
 
     /** Promise 10. */
@@ -360,6 +370,11 @@ public final class CallEdgesTest {
             DUE.same("read: members", Shelves.members(shelf), "a= d/ f=12 ");
             DUE.same("read: tape is kept", Shelves.tape(shelf), tape);
             DUE.same("read: buffer is kept", Shelves.buffer(shelf), Shelves.bytes("buffer"));
+            for (int again = 0; again < 3; again++) {
+                Shelves.file(shelf, "other" + again, "");
+                DUE.same("read again " + kind, shelf.read(kind), 3);
+                DUE.same("the members that came and no other", Shelves.members(shelf), "a= d/ f=12 ");
+            }
             shelf.end(tape.length - 5);
             shelf.go(2);
             DUE.same("read of what is cut " + kind, shelf.read(kind), -1);

@@ -131,7 +131,7 @@ public final class DigitEdgesTest {
     /** "If the others are TRAILER!!!". */
     private static void trailersName() {
         sound("trailer", Cpio.end(), "");
-        for (String name : new String[] {"TRAILER!!", "TRAILER!!!!", "RAILER!!!", "TRAILER!!?", "trailer!!!",
+        for (String name : new String[] {"TRAILER!!", "TRAILER!!!!", "RAILER!!!", "TRAILER!!?", "SRAILER!!!", "trailer!!!",
             "TRAILER!!\"", "TRAILER!!/!", "a/TRAILER!!!", "TRAILER!!!/a"}) {
             sound("a member " + name, second(Cpio.file(2, name, "b")), "first=1 " + name + "=b ");
             sound("a directory " + name, second(Cpio.directory(2, name)), "first=1 " + name + "/ ");

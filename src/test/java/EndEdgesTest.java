@@ -235,6 +235,13 @@ public final class EndEdgesTest {
         sound("a slash inside", inside.done(), "d/x=1 ");
         fault("a slash alone", new Zip().plain("/", "").done(), 10, 31 + 46);
         fault("two", new Zip().plain("d//", "").done(), 10, 33 + 46);
+        fault("a slash alone is a directory's", Zip.with(new Zip().plain("/", "").done(), 31 + 16, 1), 7, 31 + 16);
+        // No byte of a name, and a slash before it, in the number at 42: no directory's.
+        byte[] noByte = Zip.with(new Zip().plain("", "").done(), 30 + 16, 1);
+        fault("a slash that is none of the name", Zip.with(noByte, 30 + 45, 47), 10, 30 + 46);
+        for (int i : new int[] {12, 13, 14, 15}) {
+            sound("not told of: " + i, Zip.with(archive, q + i, 1), "d/ x=1 ");
+        }
     }
 
     /** "24, 4, the LENGTH, is 400 at most (7)". */

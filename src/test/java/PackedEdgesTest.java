@@ -27,6 +27,7 @@ public final class PackedEdgesTest {
         aByteMore();
         placesOfSymbols();
         whenAllHasBeenTaken();
+        bitsThatAreLeft();
         bytesLeft();
         packed();
         DUE.close();
@@ -319,6 +320,11 @@ public final class PackedEdgesTest {
     private static void noneBefore() {
         Bits first = new Bits().block(true, 2).tables(257, 1, THREE_BITS).code(L16).number(0, 2).code("0".repeat(900));
         fault("16 first", first, 24, 0);
+        // Were it 0 three times, all would be well.
+        Bits well = new Bits().block(true, 2).tables(257, 1, THREE_BITS).code(L16).number(0, 2).code(L18)
+                .number(94 - 11, 7).code(L1).code(L18).number(127, 7).code(L18).number(20 - 11, 7).code(L1).code(L1)
+                .code("0").code("1");
+        fault("16 first, the rest well", well, 24, 0);
         // Three symbols of 2 bits, then the one before 3 times would be too many: the first one's length is 2.
         Bits second = new Bits().block(true, 2).tables(257, 1, THREE_BITS).code("010").code(L16).number(0, 2)
                 .code(L18).number(127, 7).code(L18).number(252 - 138 - 11, 7).code(L0).code(L1);
@@ -375,6 +381,15 @@ public final class PackedEdgesTest {
         told("255 and 254", Tables.lengths(257, 255, 1, 254, 1), one, false);
         told("255 and 257", Tables.lengths(258, 255, 1, 257, 1), one, false);
         told("256 and 257", Tables.lengths(258, 256, 1, 257, 1), one, true);
+        Bits by18 = new Bits().block(true, 2).tables(257, 1, THREE_BITS).code(L18).number(97 - 11, 7).code(L1).code(L1)
+                .code(L18).number(127, 7).code(L18).number(20 - 11, 7).code(L1).code("0".repeat(30));
+        fault("256 has none by 18", by18, 24, 0);
+        // What one call was refused for is no fault of the next one.
+        ArchiveShelf shelf = new ArchiveShelf();
+        Shelves.feed(shelf, by18.done());
+        DUE.same("refused", shelf.unpack(), -1);
+        Shelves.feed(shelf, upToDistances(1).code(L1).code("0").code("1").done());
+        DUE.same("then sound", shelf.unpack(), 1);
     }
 
     /** "those of symbols are not complete" (24). */
@@ -699,6 +714,37 @@ public final class PackedEdgesTest {
         fault("23 in sort 0", Shelves.join(stored, new byte[1]), 23, 517 + 5);
     }
 
+    /** "a bit that lacks before that is 20": the bits that are left are taken for nothing else. */
+    private static void bitsThatAreLeft() {
+        // Behind a call that took 16 for the bit 1, so that it could be taken for that again.
+        for (int there = 0; there < 14; there++) {
+            ArchiveShelf shelf = new ArchiveShelf();
+            Shelves.feed(shelf, new Bits().block(true, 2).tables(257, 1, 0, 1, 16, 1).code("1").done());
+            DUE.same("16 with none before", shelf.unpack(), -1);
+            DUE.same("16 with none before", shelf.fault(0), 24);
+            // Of H, K and the third number so many bits are there, up to a byte's end: what is whole is 0, the rest 1.
+            int whole = there < 5 ? 0 : there < 10 ? 5 : 10;
+            Bits bits = shifted(Math.floorMod(-3 - there, 8)).block(true, 2).code("0".repeat(whole))
+                    .code("1".repeat(there - whole));
+            Shelves.feed(shelf, bits.done());
+            DUE.same("a byte's end", bits.bitCount() % 8, 0);
+            DUE.same("bits that are there: " + there, shelf.unpack(), -1);
+            DUE.same("bits that are there: " + there, shelf.fault(0), 20);
+            DUE.same("bits that are there: " + there, shelf.fault(1), bits.length());
+        }
+        // 16 is 0 and 18 is 1: 18's number lacks, and what is there of it is 0.
+        Bits repeat = new Bits().block(true, 2).tables(257, 1, 16, 1, 18, 1).code("1");
+        fault("18's number lacks", repeat, 20, repeat.length());
+        // The end is 0: of a length's bits, and of its distance's, those that are there are 0.
+        Tables tables = new Tables(Tables.lengths(285, 'a', 2, 256, 1, 284, 2), Tables.lengths(29, 28, 1));
+        Bits length = tables.head().code(tables.symbol('a')).code(tables.symbol(284));
+        DUE.same("bits are left", length.bitCount() % 8 > 3 ? 1 : 0, 1);
+        fault("a length's bits lack", length, 20, length.length());
+        Bits distance = tables.head().code(tables.symbol('a')).code(tables.symbol(284)).number(0, 5)
+                .code(tables.distance(28));
+        fault("a distance's bits lack", distance, 20, distance.length());
+    }
+
     /** "27: behind the last block there are bytes left: at the first of these (the rest of bits .. does not matter)." */
     private static void bytesLeft() {
         for (int offset = 0; offset < 8; offset++) {
@@ -750,8 +796,20 @@ public final class PackedEdgesTest {
         packed("x".repeat(261), letters("x").fixed(285).far(0).fixed('x').fixed('x'));
         packed("x".repeat(262), letters("x").fixed(285).far(0).fixed(257).far(0));
         packed("x".repeat(512), letters("x").fixed(285).far(0).fixed(284).number(26, 5).far(0));
+        // Lengths of the symbols 279, 280 and 281.
+        packed("x".repeat(100), letters("x").fixed(279).number(0, 4).far(0));
+        packed("x".repeat(115), letters("x").fixed(279).number(15, 4).far(0));
+        packed("x".repeat(116), letters("x").fixed(280).number(0, 4).far(0));
+        packed("x".repeat(131), letters("x").fixed(280).number(15, 4).far(0));
+        packed("x".repeat(132), letters("x").fixed(281).number(0, 5).far(0));
+        // Bytes 0: there are none before the first, and none behind the last.
+        packed("\0", letters("\0"));
+        packed("\0\0\0", letters("\0\0\0"));
+        packed("\0\0\0\0", letters("\0").fixed(257).far(0));
+        packed("\0\0\0a\0\0", letters("\0\0\0a\0\0"));
         // "(of several at the nearest one)": 4, not 8.
         packed("abc-abc+abc", letters("abc-").fixed(257).far(3).fixed('+').fixed(257).far(3));
+        packed("abc-abc+abc*", letters("abc-").fixed(257).far(3).fixed('+').fixed(257).far(3).fixed('*'));
         // "the longest row": 9 bytes before it there are four, 4 before it there are three.
         packed("abcd-abc+abcd", letters("abcd-").fixed(257).far(4).number(0, 1).fixed('+').fixed(258).far(6).number(0, 2));
         // "from the left, at each place": abc is taken, though bcdef would be longer from the next place on.
